@@ -427,7 +427,7 @@ public final class LevelBreaks {
                 h = 31 * h + (stands ? cuts.bestBelow(2) : NOT);
             }
         }
-        return 31 * h + fault();
+        return 31 * h + beforehand.readText();
     }
 
     private static boolean isWithin(int number, int from, int to) {
@@ -858,7 +858,9 @@ public final class LevelBreaks {
                     measure.extend(points, to);
                     // into one or two, no STRETCH lies between others
                     if (k > 2 || from == 0 || to == last) {
-                        offerStretch(points, measure, from, to, leastSize);
+                        offerWhole(points, measure, from, to, leastSize);
+                        offerWithoutOne(points, measure, from, to, leastSize);
+                        offerWithoutTwo(points, measure, from, to, leastSize);
                     }
                 }
             }
@@ -911,20 +913,16 @@ public final class LevelBreaks {
             return leftOut * TABLE + k * PLACES + place;
         }
 
-        private void offerStretch(Points points, Measure measure, int from, int to, int leastSize) {
-            int size = to - from + 1;
-            if (size >= leastSize) {
+        private void offerWhole(Points points, Measure measure, int from, int to, int leastSize) {
+            if (measure.size >= leastSize) {
                 offer(from, to, 0, measure.above(points, NONE, NONE), measure.below(0), 0);
-            }
-            if (drops >= 1 && size - 1 >= leastSize) {
-                offerWithoutOne(points, measure, from, to);
-            }
-            if (drops >= 2 && size - 2 >= leastSize) {
-                offerWithoutTwo(points, measure, from, to);
             }
         }
 
-        private void offerWithoutOne(Points points, Measure measure, int from, int to) {
+        private void offerWithoutOne(Points points, Measure measure, int from, int to, int leastSize) {
+            if (drops < 1 || measure.size - 1 < leastSize) {
+                return;
+            }
             long leastAbove = NONE;
             int which = from;
             for (int x = from; x <= to; x++) {
@@ -937,7 +935,10 @@ public final class LevelBreaks {
             offer(from, to, 1, leastAbove, measure.below(1), which);
         }
 
-        private void offerWithoutTwo(Points points, Measure measure, int from, int to) {
+        private void offerWithoutTwo(Points points, Measure measure, int from, int to, int leastSize) {
+            if (drops < 2 || measure.size - 2 < leastSize) {
+                return;
+            }
             long leastAbove = NONE;
             int which = from;
             for (int x = from; x < to; x++) {
