@@ -35,7 +35,7 @@ public final class AgainstPlainTest {
 
     public static void main(String[] args) throws Exception {
         long firstSeed = args.length == 2 && args[0].matches("\\d+") ? Long.parseLong(args[0]) : 1;
-        long runs = args.length == 2 && args[1].matches("\\d+") ? Long.parseLong(args[1]) : 400;
+        long runs = args.length == 2 && args[1].matches("\\d+") ? Long.parseLong(args[1]) : 700;
         for (Method m : LevelBreaks.class.getDeclaredMethods()) OURS.put(m.getName(), m);
         for (Method m : PlainBreaks.class.getDeclaredMethods()) {
             if (OURS.containsKey(m.getName()) && !java.lang.reflect.Modifier.isPrivate(m.getModifiers())) {
@@ -66,8 +66,11 @@ public final class AgainstPlainTest {
             String difference = step("tell");
             if (difference != null) return difference;
         }
+        // half of the runs dwell on one group of calls
+        int focus = random.nextInt(2 * CALLS.length);
         for (int n = 0; n < length; n++) {
-            String[] group = CALLS[random.nextInt(CALLS.length)];
+            boolean dwell = focus < CALLS.length && random.nextInt(10) < 7;
+            String[] group = CALLS[dwell ? focus : random.nextInt(CALLS.length)];
             String difference = step(group[random.nextInt(group.length)]);
             if (difference != null) return difference;
         }
@@ -159,10 +162,15 @@ public final class AgainstPlainTest {
 
     private int[] tellArguments() {
         if (random.nextInt(6) == 0) time = Math.min(999, time + random.nextInt(20));
-        int value = random.nextInt(12) == 0 ? -9999 : from(-spread, spread);
+        int value = random.nextInt(12) == 0 ? -9999 : someValue();
         // two rows mostly, so that some are dense
         int row = random.nextInt(3) == 0 ? row() : random.nextInt(2);
         return of(row, from(0, mostDays - 1), value, time);
+    }
+
+    private int someValue() {
+        return spread == 1000 ? new int[] {-1000, 1000, 999, from(-3, 3), from(-1000, 1000)}[random.nextInt(5)]
+            : from(-spread, spread);
     }
 
     private int from(int low, int high) {
@@ -200,7 +208,7 @@ public final class AgainstPlainTest {
 
     private int someItem() {
         int n = random.nextInt(8);
-        return n == 0 ? random.nextInt() : n == 1 ? -9999 : from(-spread, spread);
+        return n == 0 ? random.nextInt() : n == 1 ? -9999 : someValue();
     }
 
     /** Texts that are mostly as they should be, and then perhaps spoilt in one place. */

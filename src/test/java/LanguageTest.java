@@ -143,6 +143,7 @@ public final class LanguageTest {
         long[] counted = {0, 0};
         LevelBreaks x = new LevelBreaks();
         walk(x, new IdentityHashMap<>(), counted);
+        System.out.println("an object: " + counted[0] + " objects and arrays, " + counted[1] + " fields and elements");
         hold(counted[0] < 100, "few objects: " + counted[0]);
         hold(counted[1] < 10000, "few fields and elements: " + counted[1]);
     }
