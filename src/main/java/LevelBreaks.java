@@ -6,7 +6,7 @@ public final class LevelBreaks {
 
     private static final int NULL = 1, INDEX = 2, CAST = 3, STORE = 4, SIZE = 5;
     private static final int ROWS = 4, DAYS = 40, KINDS = 4, SHEETS = 4, TYPES = 3;
-    private static final int LEVEL = 0, MIDDLE = 1, SLOPE = 2, ONE = 3;
+    private static final int LEVEL = 0, MIDDLE = 1, ONE = 3;
     private static final int STEEPEST = 20, MOST_STRETCHES = 6, MOST_DROPS = 2, MOST_LEAST = 10;
     private static final int MOST_TOLD = 200, LAST_TIME = 999, FARTHEST = 1000, GAP = -9999, NO_VALUE = -10000;
     private static final int MOST_BYTES = 100, MOST_ITEMS = 60, MOST_DOUBTED = 16;
@@ -1043,11 +1043,8 @@ public final class LevelBreaks {
 
         long bestAbove(int k) {
             int best = at(0, k, 0);
-            long below = bestBelow(k);
-            if (below < 1) {
-                return whole[best];
-            }
-            return whole[best] * below + rest[best] / (BELOW_ALL / below);
+            long divisor = commonDivisor(rest[best], BELOW_ALL);
+            return divisor < 1 ? whole[best] : whole[best] * (BELOW_ALL / divisor) + rest[best] / divisor;
         }
 
         static long commonDivisor(long a, long b) {
