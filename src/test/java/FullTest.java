@@ -6,6 +6,7 @@ public final class FullTest {
     public static void main(String[] args) throws Exception {
         t = new Sentences(args);
         told();
+        changes();
         read();
         text();
         doubted();
@@ -34,6 +35,18 @@ public final class FullTest {
         t.says(4, "AS OF a TIME: what it was");
         t.after(told(200)).answers("asOf 9", 999).answers("many 1", 0).refuses("tell 0 5 7 10", FULL).answers("asOf 10", 9)
             .answers("many 1", 40);
+    }
+
+    private static void changes() {
+        t.says(15, "the least TIME as of which, and as of all later ones up to that AS OF which it is");
+        // 200 TIMES, one behind another, all of one ROW, and always the same cut
+        StringBuilder s = new StringBuilder("tell 0 0 0 0\ntell 0 1 900 0");
+        for (int time = 2; time < 200; time++) s.append("\ntell 0 1 " + time + " " + time);
+        t.after(s.toString()).answers("count 4", 200).answers("since 0 0 2", 0).answers("since 0 0 1", 0).refuses("tell 0 1 5 999", FULL)
+            .answers("since 0 0 2", 0);
+        s = new StringBuilder("tell 0 0 0 0");
+        for (int time = 1; time < 200; time++) s.append("\ntell 0 0 " + time + " " + time);
+        t.after(s.toString()).answers("count 4", 200).answers("since 0 0 1", 0).then("asOf 150").answers("since 0 0 1", 0);
     }
 
     private static void read() {

@@ -148,6 +148,10 @@ public final class LikeOnesTest {
         t.after(row(0, 1, 1)).answers("cut 0 0 2 1", 1).answers("doubt 0 2 1", 333333);
         // of 1 | 0 0 0 0 only the one itself is so far; as far in no other way
         t.after(row(1, 0, 0, 0, 0)).answers("doubt 0 2 1", 200000);
+        t.says(16, "two STRETCHES of BEST CUTS beside one another (LEVEL)");
+        // each KIND cuts these on another DAY; LEVEL on the third
+        t.after(row(0, 2, 2, 5, 9)).answers("cut 0 0 2 1", 3).answers("cut 0 1 2 1", 4).answers("cut 0 2 2 1", 2)
+            .answers("cut 0 3 2 1", 1).answers("doubt 0 2 1", 100000);
         t.says(16, "in millionths, rounded down");
         t.after(row(0, 0, 0, 0, 0, 9)).answers("doubt 0 2 1", 166666);
         t.after(row(3, 3, 3, 3, 3, 9, 9, 9, 9, 9)).answers("doubt 0 2 1", 2000000 / 252);
@@ -167,6 +171,9 @@ public final class LikeOnesTest {
         t.after(row(0, 0, 3, 9, 9, 3)).answersAll("simpler 0 1 2 2", 2, 5).answersAll("simpler 0 3 2 2", 2, 5);
         t.after(row(1, 0, 2, 1, 2, 0)).answersAll("simpler 0 2 1 2", 1, 5);
         t.after(row(0, 2, 60, 1, 2, 60)).answersAll("simpler 0 2 2 2", 2, 5);
+        // a STRETCH without two of its POINTS costs by how many are left
+        t.after(row(0, 9, 3, 9, 5, 1)).answersAll("simpler 0 0 2 2", 0, 2);
+        t.after(row(9, 5, 3, 2, 0, 2)).answersAll("simpler 0 0 2 2", 0, 4);
         // without either of both it costs a half
         t.after(row(3, 3, 3, 4, 2)).answers("simpler 0 0 1 1 0", 3);
     }

@@ -16,6 +16,7 @@ public final class RangesTest {
         stretches();
         whichOne();
         points();
+        allDays();
         prices();
         chance();
         alarms();
@@ -282,6 +283,23 @@ public final class RangesTest {
         for (int kind = 0; kind < 4; kind++) {
             t.answers("cost 2 " + kind + " 0 39 0", 0).answers("cost 2 " + kind + " 0 39 1", 1).answers("best 2 " + kind + " 6 0", 0)
                 .answers("cut 2 " + kind + " 6 5", 5).answers("simpler 2 " + kind + " 6 2 1", 1);
+        }
+    }
+
+    /** A ROW with a VALUE on each DAY: the most POINTS that there can be. */
+    private static void allDays() {
+        StringBuilder calls = new StringBuilder();
+        for (int d = 0; d < 40; d++) calls.append("tell 0 " + d + " " + (d < 13 ? 5 : d < 30 ? -1000 : 1000) + " 0\n");
+        for (int d = 0; d < 40; d++) calls.append("tell 1 " + d + " " + (d < 14 ? 0 : d < 30 ? 7 : 1) + " 0\n");
+        String[] questions = {"7 many 0", "8 cost 0 2 0 39 0", "8 cost 0 0 0 39 1", "9 best 0 0 3 0", "9 best 0 1 3 0", "9 best 0 3 3 1",
+            "10 cut 0 0 3 2", "10 cut 0 3 6 5", "12 near 0 0 2 1000", "12 near 0 0 3 1000", "12 near 0 3 3 1000", "12 near 0 1 2 1000",
+            "13 common 3 1 3", "13 common 3 3 2", "14 shared 3 1 3 1", "14 shared 3 3 3 2", "15 since 0 0 3", "16 doubt 0 3 1",
+            "17 simpler 0 0 3 1 0", "17 simpler 0 3 3 2 1", "18 together 0 1 0 3 1 0", "18 together 0 1 0 3 9 1", "19 alarm 0 0 0 1000 0 -1",
+            "20 soon 0 0 0 1000 0 39 0", "20 soon 0 0 0 1 0 39 1", "21 limit 0 0 0 0 39", "31 write 0 0", "32 count 0"};
+        for (String question : questions) {
+            int blank = question.indexOf(' ');
+            t.says(Integer.parseInt(question.substring(0, blank)), "they are POINTS 0 .. N-1, by DAYS");
+            t.after(calls.toString(), "sheet 0 2 60").takes(question.substring(blank + 1), BAD);
         }
     }
 
