@@ -18,6 +18,10 @@ public final class AgainstPlainTest {
         "count", "count", "digest"};
     private static final String[][] CALLS = {ROW_CALLS, CUT_CALLS, CHANCE_CALLS, ALARM_CALLS, TEXT_CALLS, SHEET_CALLS};
 
+    private static final int MOST_CALLS = 512;
+    private static final int[] STRANGE = {-1, -2, 2, 3, 4, 5, 6, 7, 10, 11, 16, 39, 40, 41, 61, 256, 999, 1000, 1001, -1001,
+        100001, 1000001, Integer.MIN_VALUE, Integer.MAX_VALUE, -9999};
+
     private static final Map<String, Method> OURS = new HashMap<>();
     private static final Map<String, Method> PLAIN = new HashMap<>();
 
@@ -28,6 +32,7 @@ public final class AgainstPlainTest {
     private int mostDays;
     private int spread;
     private int time;
+    private int strangeOneOf;
 
     private AgainstPlainTest(long seed) {
         random = new Random(seed);
@@ -61,14 +66,16 @@ public final class AgainstPlainTest {
         mostDays = size < 7 ? 4 + random.nextInt(9) : size < 9 ? 20 : 40;
         spread = new int[] {1, 2, 5, 30, 1000}[random.nextInt(5)];
         int fill = random.nextInt(mostDays * 5);
-        int length = 30 + random.nextInt(100);
+        // one run of eight goes as far as an object is used, one of eight has strange numbers all over
+        int length = random.nextInt(8) == 0 ? MOST_CALLS : 30 + random.nextInt(100);
+        strangeOneOf = random.nextInt(8) == 0 ? 2 : 25;
         for (int n = 0; n < fill; n++) {
             String difference = step("tell");
             if (difference != null) return difference;
         }
         // half of the runs dwell on one group of calls
         int focus = random.nextInt(2 * CALLS.length);
-        for (int n = 0; n < length; n++) {
+        for (int n = 0; n < length && calls.size() < MOST_CALLS; n++) {
             boolean dwell = focus < CALLS.length && random.nextInt(10) < 7;
             String[] group = CALLS[dwell ? focus : random.nextInt(CALLS.length)];
             String difference = step(group[random.nextInt(group.length)]);
@@ -79,8 +86,10 @@ public final class AgainstPlainTest {
 
     private String step(String name) throws Exception {
         if (name.equals("text")) {
-            if (random.nextInt(5) > 0) compare("wipe", new int[0]);
+            String wiped = random.nextInt(5) > 0 ? compare("wipe", new int[0]) : null;
+            if (wiped != null) return wiped;
             for (int b : someText()) {
+                if (calls.size() >= MOST_CALLS - 1) return null;
                 String difference = compare("type", new int[] {b});
                 if (difference != null) return difference;
             }
@@ -152,10 +161,9 @@ public final class AgainstPlainTest {
 
     /** Now and then one of the arguments is beside what it may be. */
     private int[] of(int... arguments) {
-        if (random.nextInt(25) == 0) {
-            int[] strange = {-1, -2, 2, 3, 4, 5, 6, 7, 10, 11, 16, 39, 40, 41, 61, 256, 999, 1000, 1001, -1001,
-                100001, 1000001, Integer.MIN_VALUE, Integer.MAX_VALUE, -9999};
-            arguments[random.nextInt(arguments.length)] = strange[random.nextInt(strange.length)];
+        if (random.nextInt(strangeOneOf) == 0) {
+            int strange = random.nextInt(4) == 0 ? random.nextInt() : STRANGE[random.nextInt(STRANGE.length)];
+            arguments[random.nextInt(arguments.length)] = strange;
         }
         return arguments;
     }

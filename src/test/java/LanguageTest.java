@@ -6,6 +6,7 @@ import java.lang.reflect.Modifier;
 import java.nio.file.Files;
 import java.nio.file.Path;
 import java.util.ArrayList;
+import java.util.HashMap;
 import java.util.HashSet;
 import java.util.IdentityHashMap;
 import java.util.List;
@@ -37,6 +38,7 @@ public final class LanguageTest {
         classes();
         words(withoutTexts(source));
         methods(withoutTexts(source));
+        depth(withoutTexts(source));
         room();
         System.out.println(wrong == 0 ? "the language is kept" : wrong + " rules are broken");
         if (wrong != 0) System.exit(1);
@@ -136,6 +138,37 @@ public final class LanguageTest {
                 head = -1;
             }
         }
+    }
+
+    /** Calls go at most eight deep; none comes back to itself but the one recursion, which has its own guard. */
+    private static void depth(String code) {
+        Map<String, Set<String>> calls = new HashMap<>();
+        Matcher heads = Pattern.compile("(?m)^ {4}(?: {4})?(?:public |private |static |final )*[\\w\\[\\]]+ (\\w+)\\([^)]*\\) \\{$").matcher(code);
+        while (heads.find()) {
+            String indent = heads.group().replaceAll("(?s)[^ ].*", "");
+            String body = code.substring(heads.end(), code.indexOf("\n" + indent + "}", heads.end()));
+            Matcher names = Pattern.compile("\\b(\\w+)\\(").matcher(body);
+            Set<String> called = calls.computeIfAbsent(heads.group(1), name -> new TreeSet<>());
+            while (names.find()) called.add(names.group(1));
+        }
+        hold(calls.size() > 80, "methods were found: " + calls.size());
+        int deepest = 0;
+        for (String name : calls.keySet()) {
+            if (calls.get(name).remove(name)) hold(name.equals("waysAsFar"), name + " calls itself");
+        }
+        for (String name : calls.keySet()) deepest = Math.max(deepest, depthOf(name, calls, 0));
+        System.out.println(calls.size() + " methods, calls go " + deepest + " deep");
+        hold(deepest <= 8, "calls go at most eight deep");
+    }
+
+    private static int depthOf(String name, Map<String, Set<String>> calls, int above) {
+        if (!calls.containsKey(name)) return above;
+        hold(above < 50, name + " comes back to itself");
+        int deepest = above + 1;
+        for (String called : above < 50 ? calls.get(name) : Set.<String>of()) {
+            deepest = Math.max(deepest, depthOf(called, calls, above + 1));
+        }
+        return deepest;
     }
 
     /** What one object holds, all told; since no call makes anything, a run needs no more. */

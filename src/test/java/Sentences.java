@@ -25,6 +25,8 @@ final class Sentences {
     private static final List<String> LOOK = look();
 
     private final String[] partsOfDocument;
+    private final String words;
+    private int place = 0;
     private final TreeSet<Integer> promisesSaid = new TreeSet<>();
     private int sentences = 0;
     private int answers = 0;
@@ -38,6 +40,7 @@ final class Sentences {
         // the first part is what all promises rest on, the next ones are the promises
         partsOfDocument = onOneLine(document.split("\n## Not promised")[0]).split("## Promise \\d+:");
         if (partsOfDocument.length != PROMISES + 1) throw new IllegalStateException("33 promises");
+        words = onOneLine(document.replaceAll("(?m)^(#|```).*$", "")).trim();
     }
 
     private static String onOneLine(String text) {
@@ -53,6 +56,27 @@ final class Sentences {
             fail("the document does not say so");
         }
         after();
+    }
+
+    /**
+     * As says, but these words are the next ones of the document: walked through from its first to its last, none of
+     * them is left out but headings. A promise begins with its call.
+     */
+    Sentences next(String said) {
+        sentences++;
+        sentence = "\"" + said + "\"";
+        if (said.startsWith("`")) promisesSaid.add(promisesSaid.size() + 1);
+        if (words.startsWith(said, place)) {
+            place += said.length();
+            while (place < words.length() && words.charAt(place) == ' ') place++;
+        } else {
+            fail("the document goes on with \"" + words.substring(place, Math.min(words.length(), place + 80)) + "\"");
+        }
+        return after();
+    }
+
+    boolean isWholeDocument() {
+        return place == words.length();
     }
 
     /** A new object after these calls. */
