@@ -181,7 +181,8 @@ public final class DocumentTest {
         t.next("COMMON CUTS of some ROWS (bits, not none) by KIND 1 or 3 into k STRETCHES (1 to 6) of DAYS:").after(both)
             .answers("common 1 1 2", 0).answers("shared 1 1 2 1", 3).answers("common 2 1 2", 0).answers("shared 2 1 2 1", 4)
             .answers("common 0 1 2", BAD).answers("common 16 1 2", BAD).answers("common 3 0 2", BAD).answers("common 3 2 2", BAD)
-            .answers("common 3 1 0", BAD).answers("common 3 1 7", BAD).answers("common 3 1 6", 0);
+            .answers("common 3 1 0", BAD).answers("common 3 1 7", BAD).answers("common 3 1 6", 0)
+            .then("tell 2 1 1 0", "tell 3 1 1 0").answers("common 15 1 1", 27 + 8);
         t.next("all are cut at the same DAYS (1 to 39), each ROW has at least its LEAST of POINTS in each STRETCH;")
             .after("tell 0 0 3 0", "tell 0 39 9 0").answers("shared 1 1 2 0", 0).answers("shared 1 1 2 1", 1)
             .then("tell 1 38 1 0", "tell 1 39 2 0").answers("common 3 1 2", 0).answers("shared 3 1 2 1", 39)
@@ -198,13 +199,18 @@ public final class DocumentTest {
             + " STRETCHES of BEST CUTS begin are the same as they are now.")
             .after(Sentences.tells(0, 0, 10, 0, 0, 9, 9), "tell 0 1 9 20", "tell 0 1 0 30", "tell 0 3 8 40", "tell 1 0 0 50")
             .answers("since 0 0 2", 30).then("asOf 29").answers("since 0 0 2", 20).then("asOf 19").answers("since 0 0 2", 10)
-            .then("asOf 10").answers("since 0 0 2", 10).answers("since 0 0 1", 10).then("asOf 999").answers("since 0 0 1", 10);
+            .then("asOf 10").answers("since 0 0 2", 10).answers("since 0 0 1", 10).then("asOf 999").answers("since 0 0 1", 10)
+            .after(Sentences.tells(0, 0, 10, 0, 0, 9, 9), "tell 0 1 9 11", "tell 0 1 0 12").answers("since 0 0 2", 12)
+            .then("asOf 11").answers("since 0 0 2", 11);
         t.next("NEAR: how many CUTS into k STRETCHES (2, 3) have a COST of at most that of the BEST, and a hundredth of it times p"
             + " (0 to 1000) more.").after(row(0, 2, 6)).answers("near 0 1 2 99", 1).answers("near 0 1 2 100", 2)
             .answers("near 0 1 3 0", 1).answers("near 0 1 1 0", BAD).answers("near 0 1 4 0", BAD)
             .answers("near 0 1 2 -1", BAD).answers("near 0 1 2 1001", BAD)
             // 1 and ten times 1 more is 11: so dear is the other
-            .after(row(0, 1, 12)).answers("near 0 1 2 1000", 2).answers("near 0 1 2 999", 1);
+            .after(row(0, 1, 12)).answers("near 0 1 2 1000", 2).answers("near 0 1 2 999", 1)
+            // 8 / 3 and half of it more is 4, twice of it 8
+            .after(row(2, 0, 2, 4)).answers("near 0 0 2 49", 1).answers("near 0 0 2 50", 2).answers("near 0 0 2 199", 2)
+            .answers("near 0 0 2 200", 3);
     }
 
     private static void chance() {
@@ -222,6 +228,11 @@ public final class DocumentTest {
         t.next("SIMPLER: the q POINTS (1, 2) without which the COST of BEST CUTS into k STRETCHES is least, of like ones the least"
             + " DAYS;").after(row(0, 0, 30, 0, 9, 9)).answers("simpler 0 0 2 1 0", 2)
             .after(row(5, 50, 5, 5, 70, 5)).answers("simpler 0 0 1 1 0", 4).answersAll("simpler 0 0 1 2", 1, 4)
+            .answersAll("simpler 0 1 1 2", 1, 4)
+            // two of six are 3 a DAY more beside the others; three 7 are left without 8 and 9
+            .after(row(0, 3, 90, 9, -50, 15)).answersAll("simpler 0 2 1 2", 2, 4)
+            .after(row(0, 3, 6, 40, 12)).answers("simpler 0 2 1 1 0", 3)
+            .after(row(7, 8, 7, 9, 7)).answers("simpler 0 3 1 1 0", 1).answersAll("simpler 0 3 1 2", 1, 3)
             .after(row(5, 5, 5)).answers("simpler 0 0 1 1 0", 0).answersAll("simpler 0 0 1 2", 0, 1)
             .answers("simpler 0 0 1 0 0", BAD).answers("simpler 0 0 1 3 0", BAD);
         t.next("NOT, where N less q is below k times LEAST, or q and 1 are above N.").after(row(1, 2, 3, 4))
@@ -252,6 +263,7 @@ public final class DocumentTest {
             .after(row).answers("alarm 0 10 1 5 0 -1", 2).answersAll("alarm 0 10 1 5 0", 0, 0, 1, 0, 1)
             .answers("alarm 0 10 1 6 0 -1", 1).answers("alarm 0 10 1 6 0 4", 1).answers("alarm 0 10 1 23 0 4", 1)
             .answers("alarm 0 10 1 24 0 4", 0).answersAll("alarm 0 20 0 10 1", 0, 0, 1, 1, 0).answers("alarm 0 1000 0 1 0 -1", 0)
+            .after(row(5, 4, 1)).answersAll("alarm 0 0 0 5 0", 1, 0, 1)
             .answers("alarm 0 -1000 1000 100000 0 -1", 0).answers("alarm 0 -1001 0 1 0 -1", BAD)
             .answers("alarm 0 1001 0 1 0 -1", BAD).answers("alarm 0 0 -1 1 0 -1", BAD).answers("alarm 0 0 1001 1 0 -1", BAD)
             .answers("alarm 0 0 0 0 0 -1", BAD).answers("alarm 0 0 0 100001 0 -1", BAD).answers("alarm 0 0 0 1 2 -1", BAD);
@@ -262,7 +274,7 @@ public final class DocumentTest {
             .answers("soon 0 10 1 5 0 3 1", 1).answers("soon 0 10 1 5 0 4 1", 1).answers("soon 0 10 1 5 0 39 1", 2);
         t.next("BEST LIMIT: of LIMITS 1 to 2000 the least by which there is an ALARM on a DAY or later (till 39), and none before"
             + " it; NONE.").after(row).answers("limit 0 10 1 0 4", 6).answers("limit 0 10 1 0 2", 2).answers("limit 0 10 1 0 0", 1)
-            .answers("limit 0 10 1 0 5", NONE).after(row(1000, 999, 1000)).answers("limit 0 0 0 0 1", 1001)
+            .answers("limit 0 10 1 0 5", NONE).after(row(4, 1)).answers("limit 0 0 0 0 1", 5).after(row(1000, 999, 1000)).answers("limit 0 0 0 0 1", 1001)
             .answers("limit 0 0 0 0 2", 2000).then("tell 0 1 1000 0").answers("limit 0 0 0 0 2", NONE);
     }
 
@@ -328,7 +340,8 @@ public final class DocumentTest {
             .answers("missed 1 0", 0);
         t.next("WORST: the DAY that is off most, of like ones the first; NONE, if none is.")
             .after(Sentences.types("2=0"), row(1000, 1000, 5, -8, 8)).answers("missed 0 1", 3).then("tell 0 4 9 0")
-            .answers("missed 0 1", 4).answers("missed 1 1", NONE).then("tell 1 2 0 0", "tell 1 1 9 0").answers("missed 1 1", NONE);
+            .answers("missed 0 1", 4).answers("missed 1 1", NONE).then("tell 1 2 0 0", "tell 1 1 9 0").answers("missed 1 1", NONE)
+            .after(Sentences.types("0=0"), "tell 0 0 1 0").answers("missed 0 1", 0).answers("missed 0 0", 1);
     }
 
     private static void refusals() {
@@ -409,23 +422,23 @@ public final class DocumentTest {
     private static void promisesOfCuts() {
         t.next("`int cut(int row, int kind, int k, int i)`: The DAY of the POINT at which STRETCH i of BEST CUTS begins.")
             .after("tell 0 3 5 0", "tell 0 9 5 0", "tell 0 27 8 0").answersAll("cut 0 0 2", 3, 27).answersAll("cut 0 0 3", 3, 9, 27);
-        t.next("BAD: i below 0, k and more; NOT.").answers("cut 0 0 2 -1", BAD).answers("cut 0 0 2 2", BAD).answers("cut 0 0 2 1", NOT);
+        t.next("BAD: i below 0, k and more; NOT.").answers("cut 4 0 2 1", BAD).answers("cut 0 4 2 1", BAD).answers("cut 0 0 2 -1", BAD).answers("cut 0 0 2 2", BAD).answers("cut 0 0 2 1", NOT);
         t.next("`int priced(int row, int kind, int price)`: PRICED.").after(row(0, 0, 9, 9)).answers("priced 0 1 17", 2)
             .answers("priced 0 1 18", 1);
         t.next("BAD; NOT: N is below LEAST, or 0.").answers("priced 0 4 0", BAD).answers("priced 0 0 0", NOT)
             .then(row(1, 2), "least 0 3").answers("priced 0 0 0", NOT).then("least 0 2").answers("priced 0 0 0", 1);
         t.next("`int near(int row, int kind, int k, int p)`: NEAR.").after(row(4, 4, 4, 4)).answers("near 0 0 2 0", 3)
             .answers("near 0 0 3 0", 3);
-        t.next("BAD; NOT.").answers("near 0 0 4 0", BAD).answers("near 0 0 2 0", NOT);
+        t.next("BAD; NOT.").answers("near 4 0 2 0", BAD).answers("near 0 4 2 0", BAD).answers("near 0 0 4 0", BAD).answers("near 0 0 2 0", NOT);
         t.next("`int common(int rows, int kind, int k)`: COST of COMMON CUTS.").after(row(0, 9), "tell 3 0 2 0", "tell 3 1 4 0")
             .answers("common 9 1 1", 11).answers("common 9 3 1", 2).answers("common 9 1 2", 0);
         t.next("BAD; NOT.").answers("common 1 2 1", BAD).answers("common 1 1 1", NOT);
         t.next("`int shared(int rows, int kind, int k, int i)`: The DAY at which STRETCH i of COMMON CUTS begins (the first: 0).")
             .after("tell 0 5 0 0", "tell 0 8 9 0").answers("shared 1 1 2 0", 0).answers("shared 1 1 2 1", 6);
-        t.next("BAD; NOT.").answers("shared 1 1 2 2", BAD).answers("shared 1 1 2 -1", BAD).answers("shared 1 1 2 1", NOT);
+        t.next("BAD; NOT.").answers("shared 0 1 2 1", BAD).answers("shared 1 0 2 1", BAD).answers("shared 1 1 2 2", BAD).answers("shared 1 1 2 -1", BAD).answers("shared 1 1 2 1", NOT);
         t.next("`int since(int row, int kind, int k)`: SINCE.").after("tell 0 1 1 7", "tell 0 2 9 9").answers("since 0 0 1", 7)
             .answers("since 0 0 2", 9);
-        t.next("BAD; NOT: there are no BEST CUTS now.").answers("since 0 0 7", BAD).answers("since 0 0 1", NOT)
+        t.next("BAD; NOT: there are no BEST CUTS now.").answers("since 4 0 1", BAD).answers("since 0 4 1", BAD).answers("since 0 0 7", BAD).answers("since 0 0 1", NOT)
             .then("tell 0 1 1 7", "tell 0 1 -9999 8").answers("since 0 0 1", NOT);
     }
 
@@ -433,18 +446,19 @@ public final class DocumentTest {
         t.next("`int doubt(int row, int k, int i)`: DOUBT of the cut at which STRETCH i (1 to k less 1) begins.")
             // a 0 of 0, 0, 0, 9; then a 9 of 9, 50, 50
             .after(row(0, 0, 0, 9, 50, 50)).answers("doubt 0 3 1", 250000).answers("doubt 0 3 2", 333333);
-        t.next("BAD; NOT; FULL.").answers("doubt 0 2 0", BAD).answers("doubt 0 2 2", BAD).answers("doubt 0 1 1", BAD)
+        t.next("BAD; NOT; FULL.").answers("doubt 4 2 1", BAD).answers("doubt 0 2 0", BAD).answers("doubt 0 2 2", BAD).answers("doubt 0 1 1", BAD)
             .answers("doubt 0 2 1", NOT).then(row(1, 1, 1, 1, 1, 1, 1, 1, 1, 1, 1, 1, 1, 1, 1, 1, 9)).answers("doubt 0 2 1", FULL)
             .answers("doubt 0 3 1", 1000000).answers("doubt 0 3 2", 62500);
         t.next("`int simpler(int row, int kind, int k, int q, int i)`: DAY i (from 0, q less 1 at most) of SIMPLER.")
             .after("tell 0 4 1 0", "tell 0 6 70 0", "tell 0 9 1 0", "tell 0 30 90 0").answersAll("simpler 0 1 1 2", 6, 30)
             .answers("simpler 0 1 1 1 0", 30);
-        t.next("BAD; NOT.").answers("simpler 0 0 1 1 1", BAD).answers("simpler 0 0 1 2 2", BAD).answers("simpler 0 0 1 1 0", NOT);
+        t.next("BAD; NOT.").answers("simpler 4 0 1 1 0", BAD).answers("simpler 0 4 1 1 0", BAD).answers("simpler 0 0 1 1 1", BAD).answers("simpler 0 0 1 2 2", BAD).answers("simpler 0 0 1 1 0", NOT);
         t.next("`int together(int row, int other, int kind, int k, int r, int what)`: TOGETHER: how many (what = 0), CHANCE (1).")
             .after(row(0, 0, 0, 9), Sentences.tells(1, 0, 0, 0, 0, 9, 9)).answers("together 0 1 0 2 1 0", 1)
             .answers("together 0 1 0 2 1 1", 76923);
         t.next("BAD: also a ROW with itself; NOT, as of one of both.").after(row(0, 9)).answers("together 0 0 0 2 1 0", BAD)
-            .answers("together 0 1 0 2 1 0", NOT).answers("together 1 0 0 2 1 0", NOT).answers("together 0 1 0 2 1 2", BAD);
+            .answers("together 0 1 0 2 1 0", NOT).answers("together 1 0 0 2 1 0", NOT).answers("together 0 1 0 2 1 2", BAD)
+            .answers("together 0 4 0 2 1 0", BAD).answers("together 4 0 0 2 1 0", BAD).answers("together 0 1 4 2 1 0", BAD);
     }
 
     private static void promisesOfAlarms() {
@@ -453,7 +467,7 @@ public final class DocumentTest {
         t.next("BAD.").answers("alarm 4 0 0 5 0 -1", BAD).answers("alarm 0 0 0 5 0 40", BAD).answers("alarm 0 0 0 5 0 -2", BAD);
         t.next("`int soon(int row, int target, int slack, int limit, int way, int day, int what)`: HOW SOON behind a DAY (what = 0);"
             + " FOR NOTHING before it (1).").after(row(5, 0, 5)).answers("soon 0 0 0 5 0 1 0", 1).answers("soon 0 0 0 5 0 2 1", 1);
-        t.next("BAD.").answers("soon 0 0 0 5 0 -1 0", BAD).answers("soon 0 0 0 5 0 40 0", BAD).answers("soon 0 0 0 5 0 0 2", BAD);
+        t.next("BAD.").answers("soon 4 0 0 5 0 0 0", BAD).answers("soon 0 0 0 0 0 0 0", BAD).answers("soon 0 0 0 5 0 -1 0", BAD).answers("soon 0 0 0 5 0 40 0", BAD).answers("soon 0 0 0 5 0 0 2", BAD);
         t.next("`int limit(int row, int target, int slack, int way, int day)`: BEST LIMIT.").after(row(5, 0, -2, 7))
             .answers("limit 0 0 0 0 3", 6).answers("limit 0 0 0 1 3", NONE).answers("limit 0 0 0 1 2", 1);
         t.next("BAD.").answers("limit 0 0 0 2 0", BAD).answers("limit 0 0 0 0 40", BAD).answers("limit 0 0 0 0 -1", BAD);
@@ -497,7 +511,8 @@ public final class DocumentTest {
         t.next("`int copy(int s, int i, int t, int j, int n)`: n items of SHEET s, from i on, come to SHEET t (perhaps s, as they were),"
             + " from j on: 1.").after(Sentences.sheet(0, 0, 1, 2, 3, 4), Sentences.sheet(1, 0, 9, 9, 9))
             .answers("copy 0 1 1 0 2", 1).answersAll("get 1 0", 2, 3, 9).answers("copy 0 0 0 1 3", 1).answersAll("get 0 0", 1, 1, 2, 3)
-            .answers("copy 0 1 0 0 3", 1).answersAll("get 0 0", 1, 2, 3, 3).answers("copy 0 4 1 3 0", 1);
+            .answers("copy 0 1 0 0 3", 1).answersAll("get 0 0", 1, 2, 3, 3).answers("copy 0 4 1 3 0", 1)
+            .answers("copy 0 1 1 0 3", 1).answersAll("get 1 0", 2, 3, 3);
         t.next("BAD: the SHEETS; NULL: s, t; STORE; INDEX: below 0, not so many.").after("sheet 0 0 4", "sheet 1 0 3", "sheet 2 1 4")
             .answers("copy 4 0 0 0 1", BAD).answers("copy 0 0 -1 0 1", BAD).answers("copy 3 0 0 0 1", NULL)
             .answers("copy 0 0 3 0 1", NULL).answers("copy 0 0 2 0 9", STORE).answers("copy 0 -1 1 0 1", INDEX)
@@ -519,7 +534,7 @@ public final class DocumentTest {
         t.next("BAD.").answers("count 9", BAD).answers("count -1", BAD);
         t.next("`long digest()`: h is 17; h becomes 31 h and each of: count() 0 to 7; of ROWS all VALUES by DAYS; of each ROW and KIND"
             + " best() of 2 STRETCHES, above and below (-3 each: NOT); fault(); as longs that wrap.").answers("digest", newDigest())
-            .then(row(0, 0, 1, 9), Sentences.types("1=1")).answers("digest", laterDigest());
+            .then(row(0, 0, 1, 9), "tell 3 0 5 0", "tell 3 39 4 0", Sentences.types("1=1")).answers("digest", laterDigest());
     }
 
     private static long with(long h, long... more) {
@@ -534,13 +549,14 @@ public final class DocumentTest {
         return with(h, 0);
     }
 
-    /** 0, 0, 1 and 9: two thirds by LEVEL, 1 by MIDDLE and by ONE; by SLOPE nothing, as 1 to 9 is 8 a DAY. */
+    /** 0, 0, 1 and 9: two thirds by LEVEL, 1 by MIDDLE and by ONE; by SLOPE nothing, as 1 to 9 is 8 a DAY; ROW 3: nothing. */
     private static long laterDigest() {
-        long h = with(17, 4, 0, 0, 0, 4, 999, 0, 3);
+        long h = with(17, 4, 0, 0, 2, 6, 999, 0, 3);
         h = with(h, 0, 0, 1, 9);
-        for (int n = 4; n < 160; n++) h = with(h, -9999);
+        for (int n = 4; n < 160; n++) h = with(h, n == 120 ? 5 : n == 159 ? 4 : -9999);
         h = with(h, 2, 3, 1, 1, 0, 1, 1, 1);
-        for (int n = 8; n < 32; n++) h = with(h, -3);
+        for (int n = 8; n < 24; n++) h = with(h, -3);
+        h = with(h, 0, 1, 0, 1, 0, 1, 0, 1);
         return with(h, -1);
     }
 
